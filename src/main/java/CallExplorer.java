@@ -535,13 +535,14 @@ public final class CallExplorer {
         }
 
         private void endWithTrouble(Sequence sequence, int k, int trouble) {
-            detail = trouble;
-            outcome = TROUBLED;
-            if (trouble == NULL_TROUBLE) {
-                boolean calledWithNull = isNull(sequence, k, 0) || isNull(sequence, k, 1);
-                outcome = calledWithNull ? NOT_ALLOWED : FAULTY;
-                detail = FAULT_NULL;
+            if (trouble != NULL_TROUBLE) {
+                outcome = TROUBLED;
+                detail = trouble;
+                return;
             }
+            boolean calledWithNull = isNull(sequence, k, 0) || isNull(sequence, k, 1);
+            outcome = calledWithNull ? NOT_ALLOWED : FAULTY;
+            detail = FAULT_NULL;
         }
 
         private boolean isNull(Sequence sequence, int k, int argument) {
