@@ -80,9 +80,9 @@ final class ModelTest {
     }
 
     private void makeOperation() {
-        int kind = dice.nextInt(11) - (dice.nextInt(20) == 0 ? 1 : 0);
-        int c = dice.nextInt(5);
-        int d = dice.nextInt(5);
+        int kind = wild(dice.nextInt(11) - (dice.nextInt(20) == 0 ? 1 : 0));
+        int c = wild(dice.nextInt(5));
+        int d = wild(dice.nextInt(5));
         due("operation(" + kind + ", " + c + ", " + d + ")",
             x.operation(kind, c, d), model.operation(kind, c, d));
     }
@@ -93,14 +93,19 @@ final class ModelTest {
     }
 
     private int someEntry() {
-        return dice.nextInt(model.book.size() + 3) - 1;
+        return wild(dice.nextInt(model.book.size() + 3) - 1);
+    }
+
+    /** The number itself, or now and then one far out of all bounds. */
+    private int wild(int n) {
+        return dice.nextInt(30) == 0 ? dice.nextInt() : n;
     }
 
     private void oneCall() {
         int e = someEntry();
-        int k = dice.nextInt(12) - 1;
-        int what = dice.nextInt(7) - 1;
-        int n = dice.nextInt(23) - 1;
+        int k = wild(dice.nextInt(12) - 1);
+        int what = wild(dice.nextInt(7) - 1);
+        int n = wild(dice.nextInt(23) - 1);
         switch (dice.nextInt(12)) {
             case 0 -> makeOperation();
             case 1 -> makeLiteral();
