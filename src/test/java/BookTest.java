@@ -315,7 +315,8 @@ final class BookTest {
 
     /** A literal in decimal digits (with - before them if it is below 0). */
     private static void literalsInDigits() {
-        int[] literals = {LEAST, GREATEST, 10, -10, 9, -9, 99, 100, -100, 101, 1000000000, -1000000000, 2147483640};
+        int[] literals = {LEAST, GREATEST, 10, -10, 9, -9, 99, 100, -100, 101, 1000, 9999, 10000, 99999, 100000, 999999,
+            1000000, 9999999, 10000000, 99999999, 100000000, 999999999, 1000000000, -1000000000, 1234567890};
         for (int literal : literals) {
             boolean good = literal >= -100 && literal <= 100;
             Script.run("literal " + literal, y -> {

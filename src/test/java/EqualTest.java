@@ -17,6 +17,7 @@ final class EqualTest {
         firstPairCounts();
         valuesAtTheEndCount();
         noFaultsWithTrouble();
+        noObjectsAtFirst();
         Check.end();
     }
 
@@ -197,5 +198,13 @@ final class EqualTest {
         y.operation(0, 1, 0);
         y.operation(7, 1, 0);
         come(y, "a(1)b(v0)?4", "a(1)?1");
+    }
+
+    /** A run begins with no objects: those of the run before are not looked at. */
+    private static void noObjectsAtFirst() {
+        CallExplorer x = world(LINE, new int[] {1, 3, 4}, new int[] {2, 0, 0});
+        for (int i = 0; i < 3; i++) {
+            come(x, "a(1)=o", "a(1)a(1)?3", "a(1)=o", "c(1)?1", "b(1)=o", "a(2)a(1)=o", "c(1)a(101)!1", "a(1)=o");
+        }
     }
 }

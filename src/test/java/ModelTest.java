@@ -3,7 +3,7 @@ import java.util.Random;
 /** Long random runs of calls on CallExplorer and on the model, whose answers must be alike. */
 final class ModelTest {
     private static final int RUNS = 3000;
-    private static final int CALLS = 500;
+    private static final int CALLS = 512;
     private static final int[] NUMBERS = {100, -100, 50, 5, 2, -7, 99, 101, Integer.MAX_VALUE, Integer.MIN_VALUE};
     private static final String LETTERS = "abcdefghijknovz0123456789-(),=!? ";
 
@@ -49,7 +49,7 @@ final class ModelTest {
             fillOperations();
         }
         int likelySteps = dice.nextInt(10);
-        for (int call = 0; call < CALLS - 60; call++) {
+        for (int call = 0; call < CALLS; call++) {
             if (dice.nextInt(10) < likelySteps) {
                 due("step()", x.step(), model.step());
             } else {

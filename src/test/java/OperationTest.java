@@ -18,6 +18,8 @@ final class OperationTest {
         compareWithNull();
         nullComesFirst();
         troubleEndsTheRun();
+        resultsHaveTypes();
+        tenObjects();
         Check.end();
     }
 
@@ -173,5 +175,45 @@ final class OperationTest {
         come("a(1)a(101)i(v0)!1", "a(1)i(v0)a(101)?4", "a(101)d(n)!1", "a(1)i(v0)d(n)?4", "a(101)d(v0)!1");
         come("a(1)h(v0,0)a(101)!4", "a(1)a(101)h(v0,0)!1", "a(101)a(1)a(2)a(3)a(4)a(5)a(6)a(7)a(8)a(9)!1");
         Check.replays(PLAIN, "d(n)a(101)!1", 0);
+    }
+
+    /** Of 1, 3 and 4 the result is of type c, of 5 of type d, of all others a number. */
+    private static void resultsHaveTypes() {
+        CallExplorer x = new CallExplorer(0);
+        x.type(0, 0, 0);
+        x.type(0, 0, 0);
+        x.operation(0, 1, 0);
+        x.operation(0, 2, 0);
+        x.operation(2, 1, 0);
+        x.operation(2, 2, 0);
+        x.operation(1, 1, 2);
+        x.operation(3, 2, 0);
+        x.operation(4, 1, 2);
+        x.operation(5, 1, 2);
+        x.operation(9, 1, 2);
+        x.operation(4, 2, 1);
+        typed(x, "a(3)", "c", 3);
+        typed(x, "b(3)", "d", 3);
+        typed(x, "b(3)e(v0)", "c", 3);
+        typed(x, "b(3)f(v0,1)", "d", 4);
+        typed(x, "a(3)b(4)g(v0,v1)", "c", 3);
+        typed(x, "a(3)b(4)g(v0,v1)h(v0)", "d", 4);
+        typed(x, "a(3)b(4)j(v1,v0)", "d", 4);
+        typed(x, "a(3)b(4)i(v0,v1)", "a", 0);
+        typed(x, "a(3)c(v0)", "a", 0);
+    }
+
+    /** Of c and d, which ask for an object of class 1 and 2, and a, which asks for a number, one will do. */
+    private static void typed(CallExplorer x, String calls, String asking, int value) {
+        String last = "(v" + (calls.split("\\)").length - 1) + ")=";
+        for (String call : new String[] {"c", "d", "a"}) {
+            String text = calls + call + last + (call.equals("a") ? "o" : "" + value);
+            Check.replays(x, text, call.equals(asking) ? 1 : -1);
+        }
+    }
+
+    /** As many objects as a sequence can make, in one row. */
+    private static void tenObjects() {
+        come("a(1)c(v0)c(v1)c(v2)c(v3)c(v4)c(v5)c(v6)c(v7)c(v8)=o", "a(1)a(1)a(1)a(1)a(1)a(1)a(1)a(1)a(1)a(1)=o");
     }
 }

@@ -321,6 +321,18 @@ final class ReplayTest {
             Probe.unchanged("replay of " + text, made, CallExplorer::replay);
         }
         CallExplorer x = plain();
+        Check.draftAll(x, "a(5)");
+        Check.due("replay of a text without end", x.replay(), -1);
+        x.draft(Check.pack("=n"));
+        Check.due("replay with an end that does not come", x.replay(), 0);
+        Check.draftAll(x, "a(5)d(v0)=");
+        Check.due("replay of a text without a result", x.replay(), -1);
+        x.draft('5');
+        Check.due("replay with its result", x.replay(), 1);
+        x.draft('0');
+        Check.due("replay with another result", x.replay(), 0);
+        x.draft('o');
+        Check.due("replay with too much", x.replay(), -1);
         for (int i = 0; i < 30; i++) {
             x.step();
         }

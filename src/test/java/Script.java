@@ -12,7 +12,8 @@ import java.util.List;
  *
  * 1/3 says that RANDOM of 3 is 1, x/3 that it is not 0, -/3 that it does not matter. A state from
  * which these draws come is looked for, so that the class meets just the case that the row is about;
- * after each row its state must be the one behind just so many draws.
+ * after each row its state must be the one behind just so many draws. Where such states are rare, a
+ * first row "from 123" says where to begin to look.
  */
 final class Script {
     /** Calls that make a world of classes, operations and literals. */
@@ -26,6 +27,7 @@ final class Script {
 
     private final List<int[]> draws = new ArrayList<>();
     private final String name;
+    private long from;
     private int state;
     private CallExplorer x;
 
@@ -36,13 +38,15 @@ final class Script {
     static CallExplorer run(String name, World world, String... rows) {
         Script script = new Script(name);
         for (String row : rows) {
-            script.readDraws(row);
+            script.read(row);
         }
         script.state = script.findState();
         script.x = new CallExplorer(script.state);
         world.make(script.x);
         for (String row : rows) {
-            script.play(row);
+            if (!isStart(row)) {
+                script.play(row);
+            }
         }
         return script.x;
     }
@@ -55,10 +59,19 @@ final class Script {
         return !Character.isLetter(row.charAt(0)) || row.charAt(0) == 'x';
     }
 
-    private void readDraws(String row) {
-        if (!isStep(row) || callOf(row).isEmpty()) {
-            return;
+    private static boolean isStart(String row) {
+        return row.startsWith("from ");
+    }
+
+    private void read(String row) {
+        if (isStart(row)) {
+            from = Long.parseLong(row.substring(5));
+        } else if (isStep(row) && !callOf(row).isEmpty()) {
+            readDraws(row);
         }
+    }
+
+    private void readDraws(String row) {
         for (String draw : callOf(row).split(" +")) {
             String[] sides = draw.split("/");
             int want = sides[0].equals("-") ? ANY : sides[0].equals("x") ? NOT_ZERO : Integer.parseInt(sides[0]);
@@ -68,7 +81,7 @@ final class Script {
 
     private int findState() {
         int[][] all = draws.toArray(new int[0][]);
-        for (long candidate = 0; candidate < 1L << 32; candidate++) {
+        for (long candidate = from; candidate < 1L << 32; candidate++) {
             if (comesFrom((int) candidate, all)) {
                 return (int) candidate;
             }

@@ -21,6 +21,7 @@ final class ShortenTest {
         literalOfTheLastStatement();
         onePassOnly();
         oneStatement();
+        tenStatements();
         nullStays();
         everyTroubleAndFault();
         twoEntriesAlike();
@@ -254,6 +255,7 @@ final class ShortenTest {
     /** The second argument of the first b comes before the first one of the later a. */
     private static void literalsByStatementsBeforeArguments() {
         Script.run("all literals of a statement", world(ALONE, of(MAKE, ADD), -2),
+            "from 36196000",
             "0/2 -/3 3/4 => 0 a(-2)=o fresh",
             "1/2 x/6 -/3 0/1 -/3 1/4 => 1 a(-2)b(v0,1)=o fresh",
             "literal 2 => 4",
@@ -295,6 +297,23 @@ final class ShortenTest {
             "0/1 -/3 2/3 => 0 a(-1)?1",
             "shorten 0 => 1 a(0)?1",
             "shorten 0 => 1 a(0)?1");
+    }
+
+    /** Ten statements, of which none may go: the value is 0, -1 and -101 at last, by b. */
+    private static void tenStatements() {
+        Script.run("ten statements stay", world(ALONE, of(MAKE, ADD), 100, -100),
+            "from 214549000",
+            "0/2 -/3 3/5 => 0 a(100)=o fresh",
+            "1/2 x/6 -/3 0/1 -/3 4/5 => 1 a(100)b(v0,-100)=o fresh",
+            "operation 6 1 0 => 2",
+            "2/3 x/6 -/3 0/2 -/3 2/5 => 2 a(100)c(v0,-1)=-100 fresh",
+            "2/3 x/6 -/3 0/2 0/3 0/1 => 3 a(100)a(100)c(v1,-1)c(v0,v2)=-1 fresh",
+            "1/3 x/6 -/3 1/2 0/3 1/2 => 4 a(100)b(v0,-100)a(100)a(100)c(v3,-1)c(v2,v4)b(v1,v5)=o fresh",
+            "1/3 x/6 -/3 2/3 0/3 0/2 => 5 "
+                + "a(100)b(v0,-100)a(100)a(100)c(v3,-1)c(v2,v4)b(v1,v5)a(100)c(v7,-1)b(v6,v8)!1",
+            "shorten 5 => 10 a(0)b(v0,0)a(100)a(100)c(v3,-1)c(v2,v4)b(v0,v5)a(100)c(v7,-1)b(v0,v8)!1",
+            "statement 5 9 0 => 1",
+            "statement 5 10 0 => -2");
     }
 
     /** Null is neither a variable nor a literal. */

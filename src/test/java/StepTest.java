@@ -19,10 +19,11 @@ final class StepTest {
         nineStatementsAreTaken();
         tenAreTooLong();
         againWithJustTheseStatements();
-        againBeforeTheRun();
+        againAfterShorten();
         invalidIsNotEntered();
         staleByShape();
         shapesAreToldApart();
+        shapesOfTenObjects();
         nullIsOneShapeForAllTypes();
         shapeOfFreshAlone();
         troublesAndFaults();
@@ -333,6 +334,7 @@ final class StepTest {
             "1/3 x/6 -/3 3/4 => 4 " + eight + "b(v7)=o fresh",
             "2/3 x/6 -/3 4/5 x/6 0/3 => 5 " + eight + "b(v7)c(v8,v8)!2");
         withEight("nine and null",
+            "from 32255000",
             "1/3 x/6 -/3 3/4 => 4 " + eight + "b(v7)=o fresh",
             "2/3 x/6 -/3 4/5 0/6 => 5 " + eight + "b(v7)c(v8,n)=o stale");
     }
@@ -344,10 +346,12 @@ final class StepTest {
         withEight("three and seven", "2/3 x/6 -/3 1/4 x/6 x/3 2/4 => LONG");
         withEight("eight and eight", "2/3 x/6 -/3 3/4 x/6 x/3 3/4 => LONG");
         withEight("nine and one",
+            "from 34716000",
             "1/3 x/6 -/3 3/4 => 4 " + nine + "=o fresh",
             "2/3 x/6 -/3 4/5 x/6 x/3 0/5 => LONG");
         for (String operation : new String[] {"1", "2"}) {
             withEight("ten alone, for operation " + operation,
+                operation.equals("1") ? "from 137229000" : "from 125976000",
                 "1/3 x/6 -/3 3/4 => 4 " + nine + "=o fresh",
                 "1/3 x/6 -/3 4/5 => 5 " + nine + "b(v8)=o fresh",
                 operation + "/3 x/6 -/3 5/6 => LONG");
@@ -386,7 +390,7 @@ final class StepTest {
     }
 
     /** AGAIN is told of a shortened entry by what is left of it, and no longer by what it was. */
-    private static void againBeforeTheRun() {
+    private static void againAfterShorten() {
         Script.run("shortened", x -> {
             plain(0, 3).make(x);
             x.literal(100);
@@ -458,6 +462,27 @@ final class StepTest {
             "2/3 x/6 -/3 0/3 x/6 x/3 2/3 => 3 a(1)a(0)c(v0,v1)=o fresh",
             "2/3 x/6 -/3 0/4 x/6 x/3 0/4 => 4 a(1)a(1)c(v0,v1)=o stale",
             "1/3 x/6 -/3 1/4 => 5 a(1)b(v0)b(v1)=o fresh");
+    }
+
+    /** The longest rows that there are, which differ in their last object alone. */
+    private static void shapesOfTenObjects() {
+        CallExplorer x = new CallExplorer(187596);
+        x.type(0, 0, 0);
+        x.type(1, 0, 0);
+        makers(x, 1, 2);
+        x.operation(1, 2, 1);
+        for (int i = 0; i < 400; i++) {
+            x.step();
+        }
+        boolean[] seen = new boolean[2];
+        for (int e = 0; e < x.entries(); e++) {
+            Check.due("outcome of " + Check.textOf(x, e), x.entry(e, 0), 0);
+            for (int first = 0; first < 2; first++) {
+                String text = "ab".charAt(first) + "(0)c(v0)c(v1)c(v2)c(v3)c(v4)c(v5)c(v6)c(v7)c(v8)=o";
+                seen[first] |= Check.textOf(x, e).equals(text);
+            }
+        }
+        Check.due("both rows of ten were seen", seen[0] && seen[1], true);
     }
 
     /** Null is one for all types. */
