@@ -74,7 +74,8 @@ final class EqualTest {
         // Nexts of nexts: one is null, both are, none is.
         come(x, "a(1)h(v0)h(v1)a(1)h(v3)e(v2,v4)=0", "a(1)h(v0)h(v1)a(1)h(v3)e(v4,v2)=0");
         come(x, "a(1)h(v0)h(v1)a(1)h(v3)h(v4)e(v2,v5)=1", "a(1)h(v0)h(v1)b(1)h(v3)h(v4)e(v2,v5)=0");
-        come(x, "a(1)h(v0)h(v1)h(v2)h(v3)h(v4)h(v5)h(v6)e(v7,v6)=0", "a(1)h(v0)h(v1)h(v2)h(v3)h(v4)h(v5)h(v6)e(v7,v7)=1");
+        come(x, "a(1)h(v0)h(v1)h(v2)h(v3)h(v4)h(v5)h(v6)e(v7,v6)=0");
+        come(x, "a(1)h(v0)h(v1)h(v2)h(v3)h(v4)h(v5)h(v6)e(v7,v7)=1");
     }
 
     /** 2: the nexts are EQUAL by the sense of x's next, whatever that is. */

@@ -130,7 +130,8 @@ final class OperationTest {
 
     /** 6: divided as Java's ints. */
     private static void divideAsJava() {
-        come("a(7)h(v0,2)=3", "a(-7)h(v0,2)=-3", "a(7)h(v0,-2)=-3", "a(-7)h(v0,-2)=3", "a(7)h(v0,7)=1", "a(7)h(v0,8)=0");
+        come("a(7)h(v0,2)=3", "a(-7)h(v0,2)=-3", "a(7)h(v0,-2)=-3", "a(-7)h(v0,-2)=3", "a(7)h(v0,7)=1");
+        come("a(7)h(v0,8)=0", "a(-7)h(v0,8)=0");
         come("a(-100)h(v0,-1)=100", "a(-100)h(v0,-2147483648)=0", "a(100)h(v0,2147483647)=0");
     }
 
