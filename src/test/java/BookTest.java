@@ -25,7 +25,7 @@ final class BookTest {
     }
 
     private static void emptyBook() {
-        CallExplorer x = new CallExplorer(1);
+        Caller x = new Caller(1);
         Check.due("entries()", x.entries(), 0);
         for (int e : new int[] {LEAST, -1, 0, 1, 39, 40, GREATEST}) {
             Check.due("entry(" + e + ", 0)", x.entry(e, 0), -1);
@@ -36,8 +36,8 @@ final class BookTest {
     }
 
     /** Ten operations with eight literals: eighty calls, of which forty are entered. */
-    private static CallExplorer wide(int state, int... literals) {
-        CallExplorer x = new CallExplorer(state);
+    private static Caller wide(int state, int... literals) {
+        Caller x = new Caller(state);
         x.type(0, 0, 0);
         for (int i = 0; i < 10; i++) {
             x.operation(0, 1, 0);
@@ -50,7 +50,7 @@ final class BookTest {
 
     /** How many entries the book has: each new one counts, up to 40, and no other answer does. */
     private static void entriesAreCounted() {
-        CallExplorer x = wide(4, 2, 3, 4, 5, 6);
+        Caller x = wide(4, 2, 3, 4, 5, 6);
         int made = 0;
         for (int i = 0; i < 200; i++) {
             made += x.step() >= 0 ? 1 : 0;
@@ -66,8 +66,8 @@ final class BookTest {
     }
 
     /** Entries of every outcome: operations a to h. */
-    private static CallExplorer world(int state) {
-        CallExplorer x = new CallExplorer(state);
+    private static Caller world(int state) {
+        Caller x = new Caller(state);
         x.type(0, 1, 0);
         x.type(1, 2, 3);
         x.operation(0, 1, 0);
@@ -87,7 +87,7 @@ final class BookTest {
 
     private static void noSuchEntry() {
         for (int state = 0; state < 5; state++) {
-            CallExplorer x = world(state);
+            Caller x = world(state);
             int count = x.entries();
             Check.due("some entries, but no full book", count > 5 && count < 40, true);
             for (int e : new int[] {LEAST, -40, -2, -1, count, count + 1, 39, 40, GREATEST}) {
@@ -104,7 +104,7 @@ final class BookTest {
     }
 
     private static void noSuchWhat() {
-        CallExplorer x = world(3);
+        Caller x = world(3);
         for (int what : new int[] {LEAST, -2, -1, 5, 6, GREATEST}) {
             for (int e = 0; e < x.entries(); e++) {
                 Check.due("entry(" + e + ", " + what + ")", x.entry(e, what), -1);
@@ -114,7 +114,7 @@ final class BookTest {
     }
 
     private static void noSuchStatement() {
-        CallExplorer x = world(3);
+        Caller x = world(3);
         for (int e = 0; e < x.entries(); e++) {
             int size = x.entry(e, 2);
             for (int k : new int[] {LEAST, -2, -1, size, size + 1, 10, 11, GREATEST}) {
@@ -143,7 +143,7 @@ final class BookTest {
 
     /** With i = -1 how many it has; -2 if there is no such character. */
     private static void noSuchCharacter() {
-        CallExplorer x = world(3);
+        Caller x = world(3);
         for (int e = 0; e < x.entries(); e++) {
             int length = x.text(e, -1);
             for (int i : new int[] {LEAST, -3, -2, length, length + 1, 200, 201, GREATEST}) {
@@ -152,7 +152,7 @@ final class BookTest {
             Check.due("first character of " + e, x.text(e, 0), 'a' + x.statement(e, 0, 0));
             Check.due("last character of " + e, x.text(e, length - 1) >= '-', true);
         }
-        CallExplorer one = Script.run("one text", y -> {
+        Caller one = Script.run("one text", y -> {
             y.type(0, 0, 0);
             y.operation(0, 1, 0);
         }, "0/1 -/3 2/3 => 0 a(-1)=o fresh");
@@ -162,7 +162,7 @@ final class BookTest {
         }
     }
 
-    private static void due(CallExplorer x, int e, int... want) {
+    private static void due(Caller x, int e, int... want) {
         for (int what = 0; what < want.length; what++) {
             Check.due("entry(" + e + ", " + what + ")", x.entry(e, what), want[what]);
         }
@@ -170,7 +170,7 @@ final class BookTest {
 
     /** What 0 its outcome, 1 its trouble or fault (0 if it has none), 2 how many statements. */
     private static void entryOfEachOutcome() {
-        CallExplorer x = Script.run("each outcome", y -> {
+        Caller x = Script.run("each outcome", y -> {
             y.type(0, 0, 0);
             y.operation(0, 1, 0);
             y.operation(6, 1, 0);
@@ -194,7 +194,7 @@ final class BookTest {
 
     /** 4 the number that its last statement gave (0 if it gave none); then -1 may be the number, too. */
     private static void numberOfEachEntry() {
-        CallExplorer x = Script.run("numbers", y -> {
+        Caller x = Script.run("numbers", y -> {
             y.type(0, 1, 2);
             y.operation(0, 1, 0);
             y.operation(2, 1, 0);
@@ -211,7 +211,7 @@ final class BookTest {
         due(x, 1, 0, 0, 2, 0, -100);
         due(x, 3, 0, 0, 2, 0, 100);
         due(x, 5, 0, 0, 2, 0, -1);
-        CallExplorer faulty = Script.run("a faulty one without trouble", y -> {
+        Caller faulty = Script.run("a faulty one without trouble", y -> {
             y.type(0, 1, 2);
             y.operation(0, 1, 0);
             y.operation(9, 1, 1);
@@ -227,7 +227,7 @@ final class BookTest {
 
     /** 3 its type: that of its last statement's result, also when that ended with trouble. */
     private static void typeOfEachEntry() {
-        CallExplorer x = Script.run("types", y -> {
+        Caller x = Script.run("types", y -> {
             y.type(0, 0, 0);
             y.type(1, 0, 0);
             y.type(0, 0, 0);
@@ -250,7 +250,7 @@ final class BookTest {
         due(x, 4, 0, 0, 2, 3, 0);
     }
 
-    private static void statement(CallExplorer x, int e, int k, int... want) {
+    private static void statement(Caller x, int e, int k, int... want) {
         for (int what = 0; what < 5; what++) {
             Check.due("statement(" + e + ", " + k + ", " + what + ")", x.statement(e, k, what), want[what]);
         }
@@ -258,7 +258,7 @@ final class BookTest {
 
     /** -1 if there is none, and 0 for none; then -2 may be a literal, too. */
     private static void statementOfOneArgument() {
-        CallExplorer x = Script.run("one argument", y -> {
+        Caller x = Script.run("one argument", y -> {
             y.type(0, 0, 0);
             y.operation(0, 1, 0);
             y.operation(2, 1, 0);
@@ -281,7 +281,7 @@ final class BookTest {
 
     /** 0 a variable, 1 a literal, 2 null; the variable's number or the literal, 0 for null. */
     private static void statementOfTwoArguments() {
-        CallExplorer x = Script.run("two arguments", y -> {
+        Caller x = Script.run("two arguments", y -> {
             y.type(0, 0, 0);
             y.operation(0, 1, 0);
             y.operation(9, 1, 1);
@@ -303,7 +303,7 @@ final class BookTest {
     /** The letter of its operation (a for 0, b for 1, ..), up to j. */
     private static void lettersOfOperations() {
         for (int i = 0; i < 10; i++) {
-            CallExplorer x = Script.run("letter " + i, y -> {
+            Caller x = Script.run("letter " + i, y -> {
                 y.type(0, 0, 0);
                 for (int o = 0; o < 10; o++) {
                     y.operation(0, 1, 0);
@@ -350,7 +350,7 @@ final class BookTest {
         int longest = 0;
         int most = 0;
         for (int state = 0; state < 300; state++) {
-            CallExplorer x = new CallExplorer(state);
+            Caller x = new Caller(state);
             x.type(0, 0, 0);
             x.operation(0, 1, 0);
             x.operation(6, 1, 0);
@@ -376,7 +376,7 @@ final class BookTest {
     private static void textAgreesWithStatements() {
         boolean[] ends = new boolean[128];
         for (int state = 0; state < 50; state++) {
-            CallExplorer x = world(state);
+            Caller x = world(state);
             for (int e = 0; e < x.entries(); e++) {
                 String text = Check.textOf(x, e);
                 String calls = calls(x, e);
@@ -390,7 +390,7 @@ final class BookTest {
         Check.due("all ends were seen", ends['='] && ends['!'] && ends['?'] && ends['n'] && ends['o'], true);
     }
 
-    private static String calls(CallExplorer x, int e) {
+    private static String calls(Caller x, int e) {
         StringBuilder calls = new StringBuilder();
         for (int k = 0; k < x.entry(e, 2); k++) {
             String second = x.statement(e, k, 3) < 0 ? "" : "," + argument(x, e, k, 3);
@@ -400,12 +400,12 @@ final class BookTest {
         return calls.toString();
     }
 
-    private static String argument(CallExplorer x, int e, int k, int what) {
+    private static String argument(Caller x, int e, int k, int what) {
         int content = x.statement(e, k, what + 1);
         return new String[] {"v" + content, "" + content, "n"}[x.statement(e, k, what)];
     }
 
-    private static String endOf(CallExplorer x, int e, String end) {
+    private static String endOf(Caller x, int e, String end) {
         switch (x.entry(e, 0)) {
             case 2:
                 return "!" + x.entry(e, 1);

@@ -31,7 +31,7 @@ final class Check {
     }
 
     /** The text of an entry, character by character. */
-    static String textOf(CallExplorer x, int e) {
+    static String textOf(Caller x, int e) {
         StringBuilder text = new StringBuilder();
         int length = x.text(e, -1);
         for (int i = 0; i < length; i++) {
@@ -49,7 +49,7 @@ final class Check {
         return s;
     }
 
-    static boolean draftAll(CallExplorer x, String text) {
+    static boolean draftAll(Caller x, String text) {
         boolean taken = x.draft(0);
         for (int i = 0; i < text.length(); i += 8) {
             taken = x.draft(pack(text.substring(i, Math.min(i + 8, text.length())))) && taken;
@@ -57,7 +57,7 @@ final class Check {
         return taken;
     }
 
-    static void replays(CallExplorer x, String text, int want) {
+    static void replays(Caller x, String text, int want) {
         due("draft of " + text, draftAll(x, text), true);
         due("replay of " + text, x.replay(), want);
     }

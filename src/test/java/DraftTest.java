@@ -15,23 +15,23 @@ final class DraftTest {
     }
 
     /** Objects of one class, by operation a. */
-    private static CallExplorer world() {
-        CallExplorer x = new CallExplorer(0);
+    private static Caller world() {
+        Caller x = new Caller(0);
         makers(x);
         return x;
     }
 
-    private static void makers(CallExplorer x) {
+    private static void makers(Caller x) {
         x.type(0, 0, 0);
         x.operation(0, 1, 0);
     }
 
-    private static void draft(CallExplorer x, String letters, boolean want) {
+    private static void draft(Caller x, String letters, boolean want) {
         Check.due("draft of '" + letters + "'", x.draft(Check.pack(letters)), want);
     }
 
     private static void noneAtFirst() {
-        CallExplorer x = world();
+        Caller x = world();
         Check.due("replay of no draft", x.replay(), -1);
         draft(x, "a(1)=o", true);
         Check.due("replay of the first draft", x.replay(), 1);
@@ -39,7 +39,7 @@ final class DraftTest {
 
     /** The bytes of s, the lowest first. */
     private static void lowestFirst() {
-        CallExplorer x = world();
+        Caller x = world();
         Check.due("draft of a(5)=o", x.draft(0x6f3d29352861L), true);
         Check.due("replay of a(5)=o", x.replay(), 1);
         x.draft(0);
@@ -49,7 +49,7 @@ final class DraftTest {
 
     /** Up to eight characters, behind the draft. */
     private static void upToEight() {
-        CallExplorer x = world();
+        Caller x = world();
         draft(x, "a(12)a(3", true);
         draft(x, ")=o", true);
         Check.due("replay of eight letters and three", x.replay(), 1);
@@ -66,7 +66,7 @@ final class DraftTest {
     /** Up to the first zero byte. */
     private static void upToTheFirstZero() {
         for (int size = 1; size < 8; size++) {
-            CallExplorer x = world();
+            Caller x = world();
             String letters = "a(1)a(2)".substring(0, size);
             long behind = Check.pack("zzzzzzzz") << 8 * (size + 1);
             Check.due(size + " letters, zero, and more", x.draft(Check.pack(letters) | (size < 7 ? behind : 0)), true);
@@ -80,7 +80,7 @@ final class DraftTest {
 
     /** s = 0 makes the draft empty. */
     private static void zeroMakesItEmpty() {
-        CallExplorer x = world();
+        Caller x = world();
         Check.due("draft(0) of no draft", x.draft(0), true);
         draft(x, "zzz", true);
         Check.due("replay of zzz", x.replay(), -1);
@@ -94,7 +94,7 @@ final class DraftTest {
     }
 
     /** How many characters more it takes; the draft is full then. */
-    private static int room(CallExplorer x) {
+    private static int room(Caller x) {
         int letters = 0;
         while (letters < 300 && x.draft('z')) {
             letters++;
@@ -105,7 +105,7 @@ final class DraftTest {
     /** False, refused, if the lowest byte is 0 and s is not. */
     private static void lowestZeroIsRefused() {
         for (long s : new long[] {0x100, 0x6100, 0x61610000L, 1L << 62, Long.MIN_VALUE, 0x6161616161616100L, -256}) {
-            CallExplorer x = world();
+            Caller x = world();
             Check.due("draft(" + s + ")", x.draft(s), false);
             draft(x, "a(1)", true);
             Check.due("draft(" + s + ")", x.draft(s), false);
@@ -115,7 +115,7 @@ final class DraftTest {
         }
     }
 
-    private static void begun(CallExplorer x) {
+    private static void begun(Caller x) {
         makers(x);
         Check.draftAll(x, "a(1)");
     }
@@ -126,7 +126,7 @@ final class DraftTest {
             for (int b = 1; b < 256; b++) {
                 boolean good = b >= 32 && b <= 126;
                 long others = Check.pack("zzzzzzzz") & ~(255L << 8 * place);
-                CallExplorer x = world();
+                Caller x = world();
                 long s = others | (long) b << 8 * place;
                 Check.due("byte " + b + " in place " + place, x.draft(s), good);
                 Check.due("room after byte " + b, room(x), good ? 192 : 200);
@@ -142,7 +142,7 @@ final class DraftTest {
     private static void behindTheZeroNothingMatters() {
         for (int size = 1; size < 7; size++) {
             for (long b : new long[] {1, 31, 127, 128, 255}) {
-                CallExplorer x = world();
+                Caller x = world();
                 long s = Check.pack("a(1)=o".substring(0, size)) | b << 8 * (size + 1) | b << 56;
                 Check.due("byte " + b + " behind a zero", x.draft(s), true);
                 String rest = "a(1)=o".substring(size);
@@ -159,7 +159,7 @@ final class DraftTest {
     private static void twoHundredAtMost() {
         for (int there = 190; there <= 200; there++) {
             for (int more = 1; more <= 8; more++) {
-                CallExplorer x = world();
+                Caller x = world();
                 fill(x, there);
                 boolean fits = there + more <= 200;
                 draft(x, "zzzzzzzz".substring(0, more), fits);
@@ -171,7 +171,7 @@ final class DraftTest {
                 }
             }
         }
-        CallExplorer x = world();
+        Caller x = world();
         fill(x, 199);
         Check.due("what is behind a zero does not count", x.draft('z' | Check.pack("zzzzzz") << 16), true);
         draft(x, "z", false);
@@ -179,7 +179,7 @@ final class DraftTest {
         Check.due("room then", room(x), 200);
     }
 
-    private static void fill(CallExplorer x, int letters) {
+    private static void fill(Caller x, int letters) {
         for (int i = 0; i < letters; i++) {
             x.draft('z');
         }
@@ -187,7 +187,7 @@ final class DraftTest {
 
     /** Blanks and signs are taken; it is replay that refuses them. */
     private static void draftIsReadAsItStands() {
-        CallExplorer x = world();
+        Caller x = world();
         draft(x, " ~", true);
         Check.due("replay of a blank and a tilde", x.replay(), -1);
         x.draft(0);

@@ -22,8 +22,8 @@ final class EqualTest {
     }
 
     /** Operations a, b, c make objects of classes 1, 2, 3; d links, e and f compare, g adds, h wraps. */
-    private static CallExplorer world(int[] parents, int[] senses, int[] marks) {
-        CallExplorer x = new CallExplorer(0);
+    private static Caller world(int[] parents, int[] senses, int[] marks) {
+        Caller x = new Caller(0);
         for (int i = 0; i < 3; i++) {
             x.type(parents[i], senses[i], marks[i]);
         }
@@ -38,11 +38,11 @@ final class EqualTest {
         return x;
     }
 
-    private static CallExplorer world(int[] parents, int... senses) {
+    private static Caller world(int[] parents, int... senses) {
         return world(parents, senses, new int[3]);
     }
 
-    private static void come(CallExplorer x, String... texts) {
+    private static void come(Caller x, String... texts) {
         for (String text : texts) {
             Check.replays(x, text, 1);
         }
@@ -50,13 +50,13 @@ final class EqualTest {
 
     /** 0: if y is x. */
     private static void senseItself() {
-        CallExplorer x = world(LINE, 0, 0, 0);
+        Caller x = world(LINE, 0, 0, 0);
         come(x, "a(1)e(v0,v0)=1", "a(1)g(v0,1)e(v0,v1)=1", "a(1)a(1)e(v0,v1)=0", "a(1)b(1)e(v0,v1)=0", "a(1)a(1)=o");
     }
 
     /** 1: if y has the same class and the same value. */
     private static void senseSameClassAndValue() {
-        CallExplorer x = world(LINE, 1, 1, 1);
+        Caller x = world(LINE, 1, 1, 1);
         come(x, "a(1)a(1)e(v0,v1)=1", "a(1)a(2)e(v0,v1)=0", "a(1)a(0)e(v0,v1)=0", "a(1)a(-1)e(v0,v1)=0");
         come(x, "a(1)b(1)e(v0,v1)=0", "b(1)a(1)e(v0,v1)=0", "b(1)b(1)e(v0,v1)=1", "b(1)c(1)e(v0,v1)=0");
         // Nexts do not count.
@@ -65,7 +65,7 @@ final class EqualTest {
 
     /** 2: as 1, and their nexts are both null, or none is and x's next is EQUAL to y's. */
     private static void senseNextsToo() {
-        CallExplorer x = world(LINE, 2, 2, 2);
+        Caller x = world(LINE, 2, 2, 2);
         come(x, "a(1)a(1)e(v0,v1)=1", "a(1)a(2)e(v0,v1)=0", "a(1)b(1)e(v0,v1)=0", "b(1)a(1)e(v0,v1)=0");
         come(x, "a(1)a(1)a(5)d(v0,v2)e(v0,v1)=0", "a(1)a(1)a(5)d(v0,v2)e(v1,v0)=0");
         come(x, "a(1)a(1)a(5)d(v0,v2)d(v1,v2)e(v0,v1)=1");
@@ -80,19 +80,19 @@ final class EqualTest {
 
     /** 2: the nexts are EQUAL by the sense of x's next, whatever that is. */
     private static void senseNextsBySenseOfNext() {
-        CallExplorer x = world(LINE, 2, 1, 0);
+        Caller x = world(LINE, 2, 1, 0);
         come(x, "a(1)a(1)b(5)b(5)d(v0,v2)d(v1,v3)e(v0,v1)=1", "a(1)a(1)b(5)b(6)d(v0,v2)d(v1,v3)e(v0,v1)=0");
         come(x, "a(1)a(1)c(5)c(5)d(v0,v2)d(v1,v3)e(v0,v1)=0", "a(1)a(1)c(5)d(v0,v2)d(v1,v2)e(v0,v1)=1");
-        CallExplorer kin = world(LINE, 2, 3, 3);
+        Caller kin = world(LINE, 2, 3, 3);
         come(kin, "a(1)a(1)b(5)b(5)d(v0,v2)d(v1,v3)e(v0,v1)=1", "a(1)a(1)b(5)c(6)d(v0,v2)d(v1,v3)e(v0,v1)=0");
         come(kin, "a(1)a(1)b(5)c(5)d(v0,v2)d(v1,v3)?2", "a(1)a(1)c(5)b(5)d(v0,v2)d(v1,v3)?2");
-        CallExplorer never = world(LINE, 2, 4, 0);
+        Caller never = world(LINE, 2, 4, 0);
         come(never, "a(1)c(1)d(v0,v1)=o", "a(1)b(1)d(v0,v1)?1", "b(1)a(1)?1");
     }
 
     /** 3: if the class of y IS the class of x, and they have the same value. */
     private static void senseKin() {
-        CallExplorer x = world(LINE, 3, 3, 3);
+        Caller x = world(LINE, 3, 3, 3);
         come(x, "a(1)a(1)e(v0,v1)=1", "a(1)a(2)e(v0,v1)=0", "b(1)b(1)e(v0,v1)=1", "c(1)c(1)e(v0,v1)=1");
         come(x, "a(1)b(2)e(v0,v1)=0", "c(2)a(1)e(v0,v1)=0");
         // One way round alone: the lesser class is EQUAL to the one that extends it.
@@ -110,7 +110,7 @@ final class EqualTest {
     private static void kinOneWay(String compare, int first, int second, int want) {
         boolean seen = false;
         for (int state = 0; state < 200 && !seen; state++) {
-            CallExplorer x = new CallExplorer(state);
+            Caller x = new Caller(state);
             x.type(0, 3, 0);
             x.type(1, 3, 0);
             x.type(2, 3, 0);
@@ -131,18 +131,18 @@ final class EqualTest {
 
     /** 4: never. */
     private static void senseNever() {
-        CallExplorer x = world(LINE, 4, 4, 0);
+        Caller x = world(LINE, 4, 4, 0);
         come(x, "a(1)?1", "a(1)e(v0,v0)?1", "b(1)?1", "c(1)=o");
     }
 
     /** Fault 1 if one is not EQUAL to itself; if there is none such, the pairs. */
     private static void faultOneBeforeTwo() {
-        CallExplorer x = world(LINE, new int[] {3, 1, 4}, new int[] {2, 2, 0});
+        Caller x = world(LINE, new int[] {3, 1, 4}, new int[] {2, 2, 0});
         come(x, "a(1)b(1)?2", "a(1)b(1)c(1)?1", "a(1)a(1)?3", "a(1)a(1)c(1)?1", "c(1)a(1)a(1)?1", "c(1)?1");
     }
 
     private static void faultOneOfAnyObject() {
-        CallExplorer x = world(LINE, 0, 0, 4);
+        Caller x = world(LINE, 0, 0, 4);
         come(x, "a(1)a(2)a(3)a(4)a(5)a(6)a(7)a(8)a(9)c(10)?1", "c(1)a(2)a(3)a(4)a(5)a(6)a(7)a(8)a(9)a(10)?1");
         come(x, "a(1)a(2)a(3)a(4)a(5)a(6)a(7)a(8)a(9)a(10)=o");
         // Also one that nothing leads to any more.
@@ -151,7 +151,7 @@ final class EqualTest {
 
     /** The first pair of which one is EQUAL to the other but not the other way round: fault 2. */
     private static void faultTwoBothWaysRound() {
-        CallExplorer x = world(LINE, 3, 1, 0);
+        Caller x = world(LINE, 3, 1, 0);
         come(x, "a(1)b(1)?2", "b(1)a(1)?2", "a(1)b(2)=o", "b(2)a(1)=o", "a(1)c(1)?2", "b(1)c(1)=o");
         come(x, "a(1)a(2)a(3)a(4)a(5)a(6)a(7)a(8)a(9)b(9)?2", "b(1)a(2)a(3)a(4)a(5)a(6)a(7)a(8)a(9)a(1)?2");
     }
@@ -160,7 +160,7 @@ final class EqualTest {
     private static void faultThreeByCodes() {
         for (int sense = 1; sense <= 3; sense++) {
             for (int mark = 0; mark <= 3; mark++) {
-                CallExplorer x = world(LINE, new int[] {sense, 0, 0}, new int[] {mark, 0, 0});
+                Caller x = world(LINE, new int[] {sense, 0, 0}, new int[] {mark, 0, 0});
                 Check.replays(x, "a(1)a(1)?3", mark == 2 ? 1 : 0);
                 Check.replays(x, "a(1)a(1)=o", mark == 2 ? 0 : 1);
                 Check.replays(x, "a(0)a(0)=o", mark == 2 ? 0 : 1);
@@ -174,7 +174,7 @@ final class EqualTest {
 
     /** The pairs of i and j with i < j, (0, 1), (0, 2), .., (1, 2), .. */
     private static void firstPairCounts() {
-        CallExplorer x = world(new int[] {0, 0, 2}, new int[] {1, 3, 1}, new int[] {2, 0, 0});
+        Caller x = world(new int[] {0, 0, 2}, new int[] {1, 3, 1}, new int[] {2, 0, 0});
         come(x, "a(1)a(1)b(1)c(1)?3", "b(1)c(1)a(1)a(1)?2", "a(1)b(1)c(1)a(1)?3", "b(1)a(1)a(1)c(1)?2");
         come(x, "a(1)b(2)c(2)a(2)a(1)?3", "b(1)a(2)a(2)c(2)c(1)?2", "a(1)b(2)a(1)c(2)?3", "b(1)a(2)c(1)a(2)?2");
         come(x, "a(1)a(2)=o", "b(1)c(2)=o", "b(1)b(1)=o", "c(1)b(1)?2", "a(1)b(1)=o");
@@ -184,17 +184,17 @@ final class EqualTest {
 
     /** Objects are looked at when the run has ended, not before. */
     private static void valuesAtTheEndCount() {
-        CallExplorer x = world(LINE, new int[] {1, 1, 1}, new int[] {2, 2, 2});
+        Caller x = world(LINE, new int[] {1, 1, 1}, new int[] {2, 2, 2});
         come(x, "a(1)a(1)g(v1,1)=o", "a(1)a(2)g(v0,1)?3", "a(1)h(v0)?3", "a(1)h(v0)g(v0,1)=o");
-        CallExplorer deep = world(LINE, new int[] {2, 1, 1}, new int[] {2, 2, 2});
+        Caller deep = world(LINE, new int[] {2, 1, 1}, new int[] {2, 2, 2});
         come(deep, "a(1)h(v0)=o", "a(1)a(1)?3", "a(1)a(1)a(2)d(v0,v2)=o", "a(1)h(v0)d(v1,n)?3");
     }
 
     /** With trouble its objects are not looked at. */
     private static void noFaultsWithTrouble() {
-        CallExplorer x = world(LINE, new int[] {1, 3, 4}, new int[] {2, 0, 0});
+        Caller x = world(LINE, new int[] {1, 3, 4}, new int[] {2, 0, 0});
         come(x, "c(1)a(101)!1", "c(1)?1", "a(1)a(1)a(101)!1", "b(1)c(1)g(v0,101)!1", "a(1)a(1)d(v0,v0)!2");
-        CallExplorer y = new CallExplorer(0);
+        Caller y = new Caller(0);
         y.type(0, 4, 0);
         y.operation(0, 1, 0);
         y.operation(7, 1, 0);
@@ -203,7 +203,7 @@ final class EqualTest {
 
     /** A run begins with no objects: those of the run before are not looked at. */
     private static void noObjectsAtFirst() {
-        CallExplorer x = world(LINE, new int[] {1, 3, 4}, new int[] {2, 0, 0});
+        Caller x = world(LINE, new int[] {1, 3, 4}, new int[] {2, 0, 0});
         for (int i = 0; i < 3; i++) {
             come(x, "a(1)=o", "a(1)a(1)?3", "a(1)=o", "c(1)?1", "b(1)=o", "a(2)a(1)=o", "c(1)a(101)!1", "a(1)=o");
         }

@@ -2,8 +2,11 @@ import java.util.Random;
 
 /** Long random runs of calls on CallExplorer and on the model, whose answers must be alike. */
 final class ModelTest {
-    private static final int RUNS = 3000;
+    private static final int RUNS = 8000;
+    /** As many as an object is used for. */
     private static final int CALLS = 512;
+    /** More than any turn makes: the longest text by eights, its replay, and some to spare. */
+    private static final int CALLS_OF_A_TURN = 60;
     private static final int[] NUMBERS = {100, -100, 50, 5, 2, -7, 99, 101, Integer.MAX_VALUE, Integer.MIN_VALUE};
     private static final String LETTERS = "abcdefghijknovz0123456789-(),=!? ";
 
@@ -11,6 +14,7 @@ final class ModelTest {
     private final CallExplorer x;
     private final Model model;
     private final int run;
+    private int calls;
 
     private ModelTest(int run) {
         this.run = run;
@@ -36,6 +40,7 @@ final class ModelTest {
     }
 
     private void due(String call, long got, long want) {
+        calls++;
         Check.due("run " + run + ": " + call, got, want);
     }
 
@@ -49,14 +54,18 @@ final class ModelTest {
             fillOperations();
         }
         int likelySteps = dice.nextInt(10);
-        for (int call = 0; call < CALLS; call++) {
+        while (calls < CALLS - CALLS_OF_A_TURN) {
             if (dice.nextInt(10) < likelySteps) {
                 due("step()", x.step(), model.step());
             } else {
-                oneCall();
+                oneTurn();
             }
         }
+        while (calls < CALLS - 1) {
+            due("step()", x.step(), model.step());
+        }
         due("state()", x.state(), model.state);
+        Check.due("calls of run " + run, calls, CALLS);
     }
 
     private void makeTypes() {
@@ -101,7 +110,7 @@ final class ModelTest {
         return dice.nextInt(30) == 0 ? dice.nextInt() : n;
     }
 
-    private void oneCall() {
+    private void oneTurn() {
         int e = someEntry();
         int k = wild(dice.nextInt(12) - 1);
         int what = wild(dice.nextInt(7) - 1);
@@ -123,9 +132,13 @@ final class ModelTest {
     }
 
     private void compareText(int e) {
-        for (int i = -2; i < 190; i++) {
+        int length = model.text(e, -1);
+        int from = dice.nextInt(Math.max(1, length));
+        for (int i : new int[] {-2, -1, from, from + 1, from + 2, from + 3, length - 1, length, length + 1}) {
             due("text(" + e + ", " + i + ")", x.text(e, i), model.text(e, i));
         }
+        int i = wild(dice.nextInt(210));
+        due("text(" + e + ", " + i + ")", x.text(e, i), model.text(e, i));
     }
 
     private void compareDraft() {

@@ -1,6 +1,6 @@
 /** The terms of values and of the ten kinds of operations: results and trouble, by replayed texts. */
 final class OperationTest {
-    private static final CallExplorer PLAIN = plain();
+    private static final Caller PLAIN = plain();
 
     public static void main(String[] args) {
         valuesAreInBounds();
@@ -24,8 +24,8 @@ final class OperationTest {
     }
 
     /** Objects that are equal to themselves alone, so that no fault comes between. */
-    private static CallExplorer plain() {
-        CallExplorer x = new CallExplorer(0);
+    private static Caller plain() {
+        Caller x = new Caller(0);
         x.type(0, 0, 0);
         x.type(1, 0, 0);
         x.operation(0, 1, 0);
@@ -101,7 +101,7 @@ final class OperationTest {
 
     /** 5: CAST if it is an object whose class IS not d (null is null). */
     private static void nextIsCast() {
-        CallExplorer x = new CallExplorer(0);
+        Caller x = new Caller(0);
         x.type(0, 0, 0);
         x.type(1, 0, 0);
         x.type(2, 0, 0);
@@ -148,7 +148,7 @@ final class OperationTest {
 
     /** 9: 1 if y is an object and x is EQUAL to it, else 0. */
     private static void compareWithNull() {
-        CallExplorer x = new CallExplorer(0);
+        Caller x = new Caller(0);
         x.type(0, 0, 0);
         x.operation(0, 1, 0);
         x.operation(9, 1, 1);
@@ -180,7 +180,7 @@ final class OperationTest {
 
     /** Of 1, 3 and 4 the result is of type c, of 5 of type d, of all others a number. */
     private static void resultsHaveTypes() {
-        CallExplorer x = new CallExplorer(0);
+        Caller x = new Caller(0);
         x.type(0, 0, 0);
         x.type(0, 0, 0);
         x.operation(0, 1, 0);
@@ -205,7 +205,7 @@ final class OperationTest {
     }
 
     /** Of c and d, which ask for an object of class 1 and 2, and a, which asks for a number, one will do. */
-    private static void typed(CallExplorer x, String calls, String asking, int value) {
+    private static void typed(Caller x, String calls, String asking, int value) {
         String last = "(v" + (calls.split("\\)").length - 1) + ")=";
         for (String call : new String[] {"c", "d", "a"}) {
             String text = calls + call + last + (call.equals("a") ? "o" : "" + value);

@@ -31,11 +31,13 @@ final class Probe {
     }
 
     static void unchangedFrom(int state, String what, Script.World made, Script.World more) {
-        CallExplorer x = new CallExplorer(state);
-        CallExplorer y = new CallExplorer(state);
+        Caller x = new Caller(state);
+        Caller y = new Caller(state);
         made.make(x);
         made.make(y);
+        x.keepQuestions(true);
         more.make(x);
+        x.keepQuestions(false);
         same(what + ", what is seen then", look(x), look(y));
         // A class more is asked for in one half of the cases alone: it might be refused, and leave a trace itself.
         boolean withClass = state % 2 != 0;
@@ -56,7 +58,7 @@ final class Probe {
     }
 
     /** All that can be asked; nothing changes by it. */
-    static String look(CallExplorer x) {
+    static String look(Caller x) {
         StringBuilder seen = new StringBuilder();
         seen.append("state ").append(x.state()).append(" replay ").append(x.replay());
         seen.append(" entries ").append(x.entries());
@@ -75,7 +77,7 @@ final class Probe {
     }
 
     /** Uses the explorer up, so that what cannot be asked shows too. */
-    private static String goOn(CallExplorer x, boolean withClass) {
+    private static String goOn(Caller x, boolean withClass) {
         StringBuilder seen = new StringBuilder();
         x.draft(Check.pack("=o"));
         seen.append("with =o ").append(x.replay());

@@ -16,7 +16,7 @@ final class RefusedTest {
     }
 
     private interface Asked {
-        long of(CallExplorer x);
+        long of(Caller x);
     }
 
     public static void main(String[] args) {
@@ -55,7 +55,7 @@ final class RefusedTest {
         for (long s : DRAFTS) {
             calls.add(new Call("draft(" + s + ")", x -> x.draft(s) ? 1 : -1, false));
         }
-        calls.add(new Call("replay()", CallExplorer::replay, false));
+        calls.add(new Call("replay()", Caller::replay, false));
         return calls;
     }
 
@@ -63,7 +63,7 @@ final class RefusedTest {
         int refused = 0;
         for (Call call : calls) {
             for (int state = 5; state < 9; state++) {
-                CallExplorer x = new CallExplorer(state);
+                Caller x = new Caller(state);
                 world.make(x);
                 if (call.isRefused(call.asked.of(x))) {
                     refused++;
@@ -74,13 +74,13 @@ final class RefusedTest {
         return refused;
     }
 
-    private static void classes(CallExplorer x) {
+    private static void classes(Caller x) {
         x.type(0, 1, 2);
         x.type(1, 3, 0);
         Check.draftAll(x, "a(1)");
     }
 
-    private static void book(CallExplorer x) {
+    private static void book(Caller x) {
         classes(x);
         x.operation(0, 1, 0);
         x.operation(0, 2, 0);
@@ -94,7 +94,7 @@ final class RefusedTest {
     }
 
     /** Four classes, ten operations, eight literals, forty entries and two hundred characters. */
-    private static void full(CallExplorer x) {
+    private static void full(Caller x) {
         x.type(0, 0, 0);
         x.type(1, 1, 2);
         x.type(0, 2, 2);
@@ -110,16 +110,18 @@ final class RefusedTest {
         }
         Check.due("entries of a full book", x.entries(), 40);
         Check.draftAll(x, "a(1)=o");
-        while (x.draft('o')) {
-            continue;
+        for (int letters = 6; letters < 198; letters += 8) {
+            x.draft(Check.pack("oooooooo"));
         }
+        Check.due("two letters more", x.draft(Check.pack("oo")), true);
+        Check.due("a letter too many", x.draft('o'), false);
     }
 
     /** So that a world that never refuses some call does not go unseen. */
     private static void everyKindOfCallWasRefused(List<Call> calls) {
         String[] kinds = {"type", "operation", "literal", "seek", "shorten", "entry", "statement", "text", "draft",
             "replay"};
-        CallExplorer x = new CallExplorer(7);
+        Caller x = new Caller(7);
         full(x);
         for (String kind : kinds) {
             int refused = 0;

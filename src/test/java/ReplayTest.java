@@ -28,13 +28,13 @@ final class ReplayTest {
     }
 
     /** Objects that are equal to themselves alone: operations a to j. */
-    private static CallExplorer plain() {
-        CallExplorer x = new CallExplorer(0);
+    private static Caller plain() {
+        Caller x = new Caller(0);
         makePlain(x);
         return x;
     }
 
-    private static void makePlain(CallExplorer x) {
+    private static void makePlain(Caller x) {
         x.type(0, 0, 0);
         x.type(1, 0, 0);
         x.operation(0, 1, 0);
@@ -49,13 +49,13 @@ final class ReplayTest {
         x.operation(8, 1, 0);
     }
 
-    private static void all(CallExplorer x, int want, String... texts) {
+    private static void all(Caller x, int want, String... texts) {
         for (String text : texts) {
             Check.replays(x, text, want);
         }
     }
 
-    private static void endsWith(CallExplorer x, String calls, String due) {
+    private static void endsWith(Caller x, String calls, String due) {
         for (String end : ENDS) {
             Check.replays(x, calls + end, end.equals(due) ? 1 : 0);
         }
@@ -64,7 +64,7 @@ final class ReplayTest {
 
     /** 1 if its end is what comes of it, 0 if another one does (also a number for an object or null). */
     private static void onlyItsOwnEnd() {
-        CallExplorer x = plain();
+        Caller x = plain();
         endsWith(x, "a(1)", "=o");
         endsWith(x, "a(0)", "=o");
         endsWith(x, "a(1)g(v0)", "=n");
@@ -79,7 +79,7 @@ final class ReplayTest {
         endsWith(x, "a(1)h(v0,0)", "!4");
         endsWith(x, "a(1)i(v0)", "?4");
         all(x, 0, "a(7)d(v0)=70", "a(7)d(v0)=-7", "a(7)d(v0)=2147483647", "a(7)d(v0)=-2147483648");
-        CallExplorer faulty = new CallExplorer(0);
+        Caller faulty = new Caller(0);
         faulty.type(0, 1, 2);
         faulty.type(0, 3, 0);
         faulty.type(2, 4, 0);
@@ -94,7 +94,7 @@ final class ReplayTest {
 
     /** Or it is invalid: 0. */
     private static void invalidHasNoEnd() {
-        CallExplorer x = plain();
+        Caller x = plain();
         String[] invalid = {"d(n)", "a(1)g(v0)d(v1)", "a(1)d(n)a(2)", "f(n,n)", "i(n)", "a(1)g(v0)i(v1)"};
         for (String calls : invalid) {
             for (String end : ENDS) {
@@ -105,7 +105,7 @@ final class ReplayTest {
 
     /** Fresh or stale as the book is now: these ends are alike. */
     private static void freshAndStaleAreAlike() {
-        CallExplorer x = Script.run("a book", y -> {
+        Caller x = Script.run("a book", y -> {
             y.type(0, 0, 0);
             y.operation(0, 1, 0);
             y.operation(2, 1, 0);
@@ -121,12 +121,12 @@ final class ReplayTest {
 
     /** Of any sequence: its literals need not be known, and it need not be one that a step could grow. */
     private static void ofAnySequence() {
-        CallExplorer x = plain();
+        Caller x = plain();
         all(x, 1, "a(77)=o", "a(77)a(78)a(79)d(v0)=77", "a(3)d(v0)d(v0)d(v0)=3", "a(5)e(v0,6)d(v0)=11");
     }
 
     private static void notEmpty() {
-        CallExplorer x = plain();
+        Caller x = plain();
         Check.due("replay of no draft", x.replay(), -1);
         x.draft(0);
         Check.due("replay of an empty draft", x.replay(), -1);
@@ -134,7 +134,7 @@ final class ReplayTest {
     }
 
     private static void withoutBlanks() {
-        CallExplorer x = plain();
+        Caller x = plain();
         for (String text : new String[] {"a(1)=o", "a(-1)d(v0)=-1", "a(12)f(v0,n)=o", "a(101)!1", "a(1)i(v0)?4"}) {
             Check.replays(x, text, 1);
             for (int i = 0; i <= text.length(); i++) {
@@ -145,7 +145,7 @@ final class ReplayTest {
 
     /** No beginning of a text is one, and nothing may stand before it or behind it. */
     private static void nothingLacksAndNothingIsMore() {
-        CallExplorer x = plain();
+        Caller x = plain();
         for (String text : new String[] {"a(1)=o", "a(1)g(v0)=n", "a(12)f(v0,n)=o", "a(101)!1", "a(1)i(v0)?4"}) {
             Check.replays(x, text, 1);
             for (int i = 1; i < text.length(); i++) {
@@ -161,7 +161,7 @@ final class ReplayTest {
     }
 
     private static void numbersAreInts() {
-        CallExplorer x = plain();
+        Caller x = plain();
         all(x, 1, "a(2147483647)!1", "a(-2147483648)!1", "a(1)h(v0,2147483647)=0", "a(1)h(v0,-2147483648)=0");
         all(x, 1, "a(1000000000)!1", "a(-1000000000)!1");
         all(x, -1, "a(2147483648)!1", "a(-2147483649)!1", "a(1)h(v0,2147483648)=0", "a(1)h(v0,-2147483649)=0");
@@ -181,7 +181,7 @@ final class ReplayTest {
     }
 
     private static void noZerosBeforeDigits() {
-        CallExplorer x = plain();
+        Caller x = plain();
         all(x, 1, "a(0)=o", "a(10)=o", "a(100)=o", "a(-10)=o", "a(0)d(v0)=0", "a(100)d(v0)=100");
         all(x, -1, "a(00)=o", "a(01)=o", "a(-01)=o", "a(000)=o", "a(010)=o", "a(1)e(v0,01)=o", "a(1)e(v0,00)=o");
         all(x, -1, "a(0)d(v0)=00", "a(1)d(v0)=01", "a(-1)d(v0)=-01", "a(1)d(v00)=1", "a(1)a(1)d(v01)=1");
@@ -189,13 +189,13 @@ final class ReplayTest {
     }
 
     private static void noMinusBeforeZero() {
-        CallExplorer x = plain();
+        Caller x = plain();
         all(x, -1, "a(-0)=o", "a(-00)=o", "a(1)e(v0,-0)=o", "a(0)d(v0)=-0", "a(1)d(v-0)=1", "a(1)d(v-1)=1");
         all(x, 1, "a(-1)=o", "a(1)e(v0,-1)=o", "a(-1)d(v0)=-1");
     }
 
     private static void oneEnd() {
-        CallExplorer x = plain();
+        Caller x = plain();
         all(x, -1, "a(1)", "a(1)o", "a(1)1", "a(1)=o=o", "a(1)=o!1", "a(1)!1!1", "a(1)!1?1", "a(1)?1=o", "a(1)=oo");
         all(x, -1, "a(1)=on", "a(1)==o", "a(1)=!1", "a(1)=", "a(1)!", "a(1)?", "a(1)=o=", "a(1)=v0");
         all(x, -1, "a(1)=O", "a(1)=N");
@@ -204,7 +204,7 @@ final class ReplayTest {
 
     /** Behind ! 1 to 5, behind ? 1 to 4. */
     private static void digitsOfTroubleAndFault() {
-        CallExplorer x = plain();
+        Caller x = plain();
         for (char letter = 32; letter < 127; letter++) {
             Check.replays(x, "a(1)!" + letter, letter >= '1' && letter <= '5' ? 0 : -1);
             Check.replays(x, "a(1)?" + letter, letter >= '1' && letter <= '4' ? 0 : -1);
@@ -216,7 +216,7 @@ final class ReplayTest {
 
     /** Operations that there are. */
     private static void operationsThatThereAre() {
-        CallExplorer x = new CallExplorer(0);
+        Caller x = new Caller(0);
         x.type(0, 0, 0);
         for (int made = 0; made <= 10; made++) {
             for (char letter = 32; letter < 127; letter++) {
@@ -228,7 +228,7 @@ final class ReplayTest {
 
     /** A variable is the number of an earlier statement. */
     private static void variablesOfEarlierStatements() {
-        CallExplorer x = plain();
+        Caller x = plain();
         all(x, 1, "a(1)d(v0)=1", "a(1)a(2)d(v1)=2", "a(1)a(2)d(v0)=1");
         all(x, -1, "d(v0)=1", "a(1)d(v1)=1", "a(1)d(v2)=1", "a(1)a(2)d(v2)=2", "a(1)d(v1)a(1)=o", "d(v1)a(1)=o");
         all(x, -1, "a(1)d(v)=1", "a(1)d(V0)=1", "a(1)d(v0v0)=1", "a(1)d(vv0)=1", "a(1)d(vn)=1", "a(1)d(0)=1");
@@ -241,11 +241,11 @@ final class ReplayTest {
 
     /** A variable's type must be 0 for a number, otherwise a class that IS the argument's. */
     private static void variablesOfTheRightType() {
-        CallExplorer x = plain();
+        Caller x = plain();
         all(x, 1, "a(1)d(v0)a(v1)=o", "a(1)d(v0)e(v0,v1)=o", "b(1)d(v0)=1", "a(1)g(v0)f(v0,v1)=o", "a(1)c(v0)c(v1)=o");
         all(x, -1, "a(1)a(v0)=o", "a(1)e(v0,v0)=o", "a(1)d(v0)d(v1)=1", "a(1)d(v0)e(v1,1)=o", "a(1)d(v0)f(v0,v1)=o");
         all(x, -1, "a(1)g(v0)a(v1)=o", "a(1)d(v0)f(v1,v0)=o", "a(1)h(v0,v0)=1");
-        CallExplorer down = new CallExplorer(0);
+        Caller down = new Caller(0);
         down.type(0, 0, 0);
         down.type(1, 0, 0);
         down.operation(0, 1, 0);
@@ -260,7 +260,7 @@ final class ReplayTest {
 
     /** Variables, literals and null where they may stand. */
     private static void literalsAndNullInTheirPlaces() {
-        CallExplorer x = plain();
+        Caller x = plain();
         all(x, -1, "a(n)=o", "a(1)e(v0,n)=o", "a(1)h(v0,n)=1", "a(1)d(1)=1", "a(1)c(0)=o", "a(1)f(v0,1)=o");
         all(x, -1, "a(1)f(1,v0)=o", "a(1)e(1,1)=o", "a(1)f(v0,0)=o", "a(1)f(v0,o)=o", "a(N)=o", "a(1)f(v0,N)=o");
         all(x, -1, "a(1)f(v0,nn)=o", "a(1)f(v0,n0)=o", "a(1)f(v0,-n)=o");
@@ -269,7 +269,7 @@ final class ReplayTest {
     }
 
     private static void asManyArgumentsAsThereAre() {
-        CallExplorer x = plain();
+        Caller x = plain();
         all(x, -1, "a()=o", "a(1,1)=o", "a(1,)=o", "a(,1)=o", "a(,)=o", "a=o", "a(1)d(v0,v0)=1", "a(1)d(v0,n)=1");
         all(x, -1, "a(1)d()=1", "a(1)e(v0)=o", "a(1)e(v0,)=o", "a(1)e(,1)=o", "a(1)e(v0,1,1)=o", "a(1)e(v0,,1)=o");
         all(x, -1, "a(1)f(v0)=o", "a(1)f(v0;n)=o", "a(1)f(v0n)=o", "a(1)f(v0,n,n)=o", "a(1)f()=o");
@@ -277,7 +277,7 @@ final class ReplayTest {
 
     /** 1 to 10 statements. */
     private static void oneToTenStatements() {
-        CallExplorer x = plain();
+        Caller x = plain();
         StringBuilder calls = new StringBuilder();
         for (int size = 1; size <= 12; size++) {
             calls.append("a(").append(size).append(")");
@@ -306,7 +306,7 @@ final class ReplayTest {
 
     /** What ends with trouble early must be a text to its end all the same. */
     private static void readToItsEndBeforeItRuns() {
-        CallExplorer x = plain();
+        Caller x = plain();
         all(x, 1, "a(101)a(1)!1", "a(101)d(v0)!1");
         all(x, -1, "a(101)z(1)!1", "a(101)d(v1)!1", "a(101)a(1!1", "d(n)a(", "a(101)a(01)!1", "d(n)=x");
     }
@@ -321,9 +321,9 @@ final class ReplayTest {
                 }
                 Check.draftAll(y, text);
             };
-            Probe.unchanged("replay of " + text, made, CallExplorer::replay);
+            Probe.unchanged("replay of " + text, made, Caller::replay);
         }
-        CallExplorer x = plain();
+        Caller x = plain();
         Check.draftAll(x, "a(5)");
         Check.due("replay of a text without end", x.replay(), -1);
         x.draft(Check.pack("=n"));

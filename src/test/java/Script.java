@@ -18,7 +18,7 @@ import java.util.List;
 final class Script {
     /** Calls that make a world of classes, operations and literals. */
     interface World {
-        void make(CallExplorer x);
+        void make(Caller x);
     }
 
     private static final int ANY = -1;
@@ -29,19 +29,19 @@ final class Script {
     private final String name;
     private long from;
     private int state;
-    private CallExplorer x;
+    private Caller x;
 
     private Script(String name) {
         this.name = name;
     }
 
-    static CallExplorer run(String name, World world, String... rows) {
+    static Caller run(String name, World world, String... rows) {
         Script script = new Script(name);
         for (String row : rows) {
             script.read(row);
         }
         script.state = script.findState();
-        script.x = new CallExplorer(script.state);
+        script.x = new Caller(script.state);
         world.make(script.x);
         for (String row : rows) {
             if (!isStart(row)) {

@@ -15,8 +15,8 @@ final class SeekTest {
     }
 
     /** Operations a and b give objects without fault, c faulty ones; a step draws three times. */
-    private static CallExplorer world(int state) {
-        CallExplorer x = new CallExplorer(state);
+    private static Caller world(int state) {
+        Caller x = new Caller(state);
         x.type(0, 0, 0);
         x.type(0, 4, 0);
         x.operation(0, 1, 0);
@@ -43,7 +43,7 @@ final class SeekTest {
     private static void boundsOfN() {
         int state = firstFaultyIn(1);
         for (int n : new int[] {Integer.MIN_VALUE, -20, -1, 0, 21, 22, Integer.MAX_VALUE}) {
-            CallExplorer x = world(state);
+            Caller x = world(state);
             Check.due("seek(" + n + ")", x.seek(n), -1);
             Check.due("state after seek(" + n + ")", x.state(), state);
             Check.due("entries after seek(" + n + ")", x.entries(), 0);
@@ -55,7 +55,7 @@ final class SeekTest {
             }, y -> y.seek(n));
         }
         for (int n : new int[] {1, 2, 19, 20}) {
-            CallExplorer x = world(state);
+            Caller x = world(state);
             Check.due("seek(" + n + ")", x.seek(n), 0);
             Check.due("state after seek(" + n + ")", x.state(), Check.drawn(state, 3));
         }
@@ -64,7 +64,7 @@ final class SeekTest {
     /** At most n of them; -1 if there was none. */
     private static void atMostNSteps() {
         for (int n = 1; n <= 20; n++) {
-            CallExplorer x = new CallExplorer(n);
+            Caller x = new Caller(n);
             x.type(0, 0, 0);
             x.operation(0, 1, 0);
             Check.due("seek(" + n + ") without faults", x.seek(n), -1);
@@ -76,7 +76,7 @@ final class SeekTest {
     private static void stopsAtTheFaultyOne() {
         for (int step = 1; step <= 6; step++) {
             int state = firstFaultyIn(step);
-            CallExplorer x = world(state);
+            Caller x = world(state);
             int found = x.seek(20);
             Check.due("the entry found in step " + step, found, x.entries() - 1);
             Check.due("its outcome", x.entry(found, 0), 3);
@@ -88,19 +88,19 @@ final class SeekTest {
     private static void theLastStepCounts() {
         for (int step : new int[] {1, 2, 5, 19, 20}) {
             int state = firstFaultyIn(step);
-            CallExplorer x = world(state);
+            Caller x = world(state);
             int found = x.seek(step);
             Check.due("found by step " + step + " of as many", found, x.entries() - 1);
             Check.due("its outcome", x.entry(found, 0), 3);
             if (step > 1) {
-                CallExplorer y = world(state);
+                Caller y = world(state);
                 Check.due("step " + step + " is one too late", y.seek(step - 1), -1);
                 Check.due("state then", y.state(), Check.drawn(state, 3 * step - 3));
                 Check.due("found by one step more", y.seek(1), found);
             }
         }
         int state = firstFaultyIn(21);
-        CallExplorer x = world(state);
+        Caller x = world(state);
         Check.due("step 21 is too late for seek(20)", x.seek(20), -1);
         Check.due("state then", x.state(), Check.drawn(state, 60));
     }
@@ -109,8 +109,8 @@ final class SeekTest {
     private static void otherAnswersEndNothing() {
         boolean[] seen = new boolean[10];
         for (int state = 0; state < 400; state++) {
-            CallExplorer x = busy(state);
-            CallExplorer y = busy(state);
+            Caller x = busy(state);
+            Caller y = busy(state);
             int answer = -1;
             for (int i = 0; i < 20 && answer < 0; i++) {
                 int e = y.step();
@@ -124,8 +124,8 @@ final class SeekTest {
         Check.due("all outcomes were seen", seen[6] && seen[7] && seen[8] && seen[9], true);
     }
 
-    private static CallExplorer busy(int state) {
-        CallExplorer x = new CallExplorer(state);
+    private static Caller busy(int state) {
+        Caller x = new Caller(state);
         x.type(0, 0, 0);
         x.type(0, 0, 0);
         x.operation(0, 1, 0);
@@ -142,7 +142,7 @@ final class SeekTest {
 
     /** A faulty entry that the book had before ends nothing. */
     private static void onlyNewEntriesCount() {
-        CallExplorer x = new CallExplorer(5);
+        Caller x = new Caller(5);
         x.type(0, 4, 0);
         x.operation(0, 1, 0);
         for (int e = 0; e < 3; e++) {
@@ -154,8 +154,8 @@ final class SeekTest {
         Check.due("entries then", x.entries(), 3);
     }
 
-    private static CallExplorer manyFaulty(int state) {
-        CallExplorer x = new CallExplorer(state);
+    private static Caller manyFaulty(int state) {
+        Caller x = new Caller(state);
         x.type(0, 4, 0);
         for (int i = 0; i < 10; i++) {
             x.operation(0, 1, 0);
@@ -168,7 +168,7 @@ final class SeekTest {
 
     /** The last faulty entry of a full book is not found again. */
     private static void onAFullBook() {
-        CallExplorer x = manyFaulty(8);
+        Caller x = manyFaulty(8);
         for (int e = 0; e < 40; e++) {
             Check.due("seek(20)", x.seek(20), e);
         }
@@ -183,9 +183,9 @@ final class SeekTest {
     /** Steps on a full book end nothing and draw nothing, also within a seek. */
     private static void fillsTheBook() {
         for (int state = 0; state < 20; state++) {
-            CallExplorer x = new CallExplorer(state);
-            CallExplorer y = new CallExplorer(state);
-            for (CallExplorer z : new CallExplorer[] {x, y}) {
+            Caller x = new Caller(state);
+            Caller y = new Caller(state);
+            for (Caller z : new Caller[] {x, y}) {
                 z.type(0, 0, 0);
                 for (int i = 0; i < 10; i++) {
                     z.operation(0, 1, 0);
@@ -205,7 +205,7 @@ final class SeekTest {
     }
 
     private static void withoutOperations() {
-        CallExplorer x = new CallExplorer(3);
+        Caller x = new Caller(3);
         Check.due("seek(20) without operations", x.seek(20), -1);
         Check.due("seek(1) without operations", x.seek(1), -1);
         Check.due("state then", x.state(), 3);
@@ -213,8 +213,8 @@ final class SeekTest {
 
     private static void asSingleSteps() {
         for (int state = 0; state < 100; state++) {
-            CallExplorer x = faulty(state);
-            CallExplorer y = faulty(state);
+            Caller x = faulty(state);
+            Caller y = faulty(state);
             int n = 1 + state % 20;
             int want = -1;
             for (int i = 0; i < n && want < 0; i++) {
@@ -226,8 +226,8 @@ final class SeekTest {
         }
     }
 
-    private static CallExplorer faulty(int state) {
-        CallExplorer x = new CallExplorer(state);
+    private static Caller faulty(int state) {
+        Caller x = new Caller(state);
         x.type(0, 1, 2);
         x.operation(0, 1, 0);
         x.operation(7, 1, 0);

@@ -28,7 +28,7 @@ final class SetupTest {
     }
 
     private static void newObjectIsEmpty() {
-        CallExplorer x = new CallExplorer(77);
+        Caller x = new Caller(77);
         Check.due("entries of a new object", x.entries(), 0);
         Check.due("entry(0, 0) of a new object", x.entry(0, 0), -1);
         Check.due("statement(0, 0, 0) of a new object", x.statement(0, 0, 0), -2);
@@ -61,18 +61,18 @@ final class SetupTest {
 
     private static void newObjectHasTheState() {
         for (int state : new int[] {0, 1, -1, 77, LEAST, GREATEST}) {
-            Check.due("state of a new object", new CallExplorer(state).state(), state);
+            Check.due("state of a new object", new Caller(state).state(), state);
         }
     }
 
-    private static void makers(CallExplorer x, int operations) {
+    private static void makers(Caller x, int operations) {
         x.type(0, 0, 0);
         for (int i = 0; i < operations; i++) {
             x.operation(0, 1, 0);
         }
     }
 
-    private static void classes(CallExplorer x, int... parents) {
+    private static void classes(Caller x, int... parents) {
         for (int parent : parents) {
             x.type(parent, 0, 0);
         }
@@ -80,7 +80,7 @@ final class SetupTest {
 
     /** -1, refused, if four are there. */
     private static void fourClassesAtMost() {
-        CallExplorer x = new CallExplorer(0);
+        Caller x = new Caller(0);
         for (int c = 1; c <= 4; c++) {
             Check.due("class " + c, x.type(0, 0, 0), c);
         }
@@ -93,7 +93,7 @@ final class SetupTest {
 
     /** -1, refused, if an operation is there. */
     private static void noClassAfterAnOperation() {
-        CallExplorer x = new CallExplorer(0);
+        Caller x = new Caller(0);
         Check.due("type", x.type(0, 0, 0), 1);
         Check.due("refused operation", x.operation(0, 2, 0), -1);
         Check.due("type after a refused operation", x.type(0, 0, 0), 2);
@@ -109,14 +109,14 @@ final class SetupTest {
             int[] before = new int[there];
             for (int parent : new int[] {LEAST, -4, -1, there + 1, there + 2, 4, 5, GREATEST}) {
                 if (parent < 0 || parent > there) {
-                    CallExplorer x = new CallExplorer(0);
+                    Caller x = new Caller(0);
                     classes(x, before);
                     Check.due("parent " + parent + " with " + there + " classes", x.type(parent, 0, 0), -1);
                     Probe.unchanged("parent " + parent, y -> classes(y, before), y -> y.type(parent, 1, 2));
                 }
             }
             for (int parent = 0; parent <= there; parent++) {
-                CallExplorer x = new CallExplorer(0);
+                Caller x = new Caller(0);
                 classes(x, before);
                 Check.due("parent " + parent + " with " + there + " classes", x.type(parent, 0, 0), there + 1);
             }
@@ -126,22 +126,22 @@ final class SetupTest {
     /** -1, refused, if sense is not 0 .. 4. */
     private static void senseInBounds() {
         for (int sense : new int[] {LEAST, -2, -1, 5, 6, GREATEST}) {
-            Check.due("sense " + sense, new CallExplorer(0).type(0, sense, 0), -1);
+            Check.due("sense " + sense, new Caller(0).type(0, sense, 0), -1);
             Probe.unchanged("sense " + sense, y -> classes(y, 0), y -> y.type(0, sense, 0));
         }
         for (int sense = 0; sense <= 4; sense++) {
-            Check.due("sense " + sense, new CallExplorer(0).type(0, sense, 0), 1);
+            Check.due("sense " + sense, new Caller(0).type(0, sense, 0), 1);
         }
     }
 
     /** -1, refused, if mark is not 0 .. 3. */
     private static void markInBounds() {
         for (int mark : new int[] {LEAST, -2, -1, 4, 5, GREATEST}) {
-            Check.due("mark " + mark, new CallExplorer(0).type(0, 0, mark), -1);
+            Check.due("mark " + mark, new Caller(0).type(0, 0, mark), -1);
             Probe.unchanged("mark " + mark, y -> classes(y, 0), y -> y.type(0, 1, mark));
         }
         for (int mark = 0; mark <= 3; mark++) {
-            Check.due("mark " + mark, new CallExplorer(0).type(0, 0, mark), 1);
+            Check.due("mark " + mark, new Caller(0).type(0, 0, mark), 1);
         }
     }
 
@@ -156,7 +156,7 @@ final class SetupTest {
 
     /** Row c, column t of the table: whether a variable of class c may stand for one of class t. */
     private static void isMatrix(int[] parents, String table) {
-        CallExplorer x = new CallExplorer(0);
+        Caller x = new Caller(0);
         classes(x, parents);
         for (int c = 1; c <= 4; c++) {
             x.operation(0, c, 0);
@@ -174,7 +174,7 @@ final class SetupTest {
 
     /** -1, refused, if ten are there. */
     private static void tenOperationsAtMost() {
-        CallExplorer x = new CallExplorer(0);
+        Caller x = new Caller(0);
         x.type(0, 0, 0);
         for (int i = 0; i < 10; i++) {
             Check.due("operation " + i, x.operation(i, 1, 1), i);
@@ -188,13 +188,13 @@ final class SetupTest {
     /** -1, refused, if kind is not 0 .. 9. */
     private static void kindInBounds() {
         for (int kind : new int[] {LEAST, -2, -1, 10, 11, GREATEST}) {
-            CallExplorer x = new CallExplorer(0);
+            Caller x = new Caller(0);
             x.type(0, 0, 0);
             Check.due("kind " + kind, x.operation(kind, 1, 1), -1);
             Probe.unchanged("kind " + kind, y -> classes(y, 0), y -> y.operation(kind, 1, 1));
         }
         for (int kind = 0; kind <= 9; kind++) {
-            CallExplorer x = new CallExplorer(0);
+            Caller x = new Caller(0);
             x.type(0, 0, 0);
             Check.due("kind " + kind, x.operation(kind, 1, 1), 0);
         }
@@ -203,7 +203,7 @@ final class SetupTest {
     /** -1, refused, if c is no class. */
     private static void cIsAClass() {
         for (int kind = 0; kind <= 9; kind++) {
-            CallExplorer x = new CallExplorer(0);
+            Caller x = new Caller(0);
             classes(x, 0, 0);
             for (int c : new int[] {LEAST, -1, 0, 3, 4, 5, GREATEST}) {
                 Check.due("kind " + kind + " of c " + c, x.operation(kind, c, 1), -1);
@@ -219,7 +219,7 @@ final class SetupTest {
     private static void dIsAClassWhereItCounts() {
         for (int kind = 0; kind <= 9; kind++) {
             if (HAS_D[kind]) {
-                CallExplorer x = new CallExplorer(0);
+                Caller x = new Caller(0);
                 classes(x, 0, 0);
                 for (int d : new int[] {LEAST, -1, 0, 3, 4, 5, GREATEST}) {
                     Check.due("kind " + kind + " of d " + d, x.operation(kind, 1, d), -1);
@@ -236,7 +236,7 @@ final class SetupTest {
     private static void dDoesNotCountElsewhere() {
         for (int kind = 0; kind <= 9; kind++) {
             if (!HAS_D[kind]) {
-                CallExplorer x = new CallExplorer(0);
+                Caller x = new Caller(0);
                 classes(x, 0, 0);
                 int made = 0;
                 for (int d : new int[] {LEAST, -1, 0, 1, 2, 3, 5, GREATEST}) {
@@ -260,7 +260,7 @@ final class SetupTest {
 
     /** -1, refused, if eight are there. */
     private static void eightLiteralsAtMost() {
-        CallExplorer x = new CallExplorer(0);
+        Caller x = new Caller(0);
         for (int i = 3; i < 8; i++) {
             Check.due("literal " + i, x.literal(10 * i), i);
         }
@@ -274,7 +274,7 @@ final class SetupTest {
             "0/1 -/3 6/8 => 2 a(60)=o fresh");
     }
 
-    private static void eightLiterals(CallExplorer x) {
+    private static void eightLiterals(Caller x) {
         makers(x, 1);
         for (int i = 3; i < 8; i++) {
             x.literal(10 * i);
@@ -283,7 +283,7 @@ final class SetupTest {
 
     /** -1, refused, if v is there already. */
     private static void noLiteralTwice() {
-        CallExplorer x = new CallExplorer(0);
+        Caller x = new Caller(0);
         for (int v : new int[] {0, 1, -1}) {
             Check.due("literal(" + v + ")", x.literal(v), -1);
         }
@@ -311,7 +311,7 @@ final class SetupTest {
     }
 
     private static void stateChangesByDrawsAlone() {
-        CallExplorer x = new CallExplorer(1);
+        Caller x = new Caller(1);
         x.step();
         x.seek(20);
         Check.due("state after steps without operations", x.state(), 1);

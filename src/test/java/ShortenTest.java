@@ -374,7 +374,7 @@ final class ShortenTest {
             "entry 3 3 => 0",
             "entry 3 4 => 0");
         for (int state = 0; state < 60; state++) {
-            CallExplorer x = large(state);
+            Caller x = large(state);
             x.seek(20);
             x.seek(20);
             for (int e = 0; e < x.entries(); e++) {
@@ -383,7 +383,7 @@ final class ShortenTest {
         }
     }
 
-    private static void otherEntriesStay(CallExplorer x, int e) {
+    private static void otherEntriesStay(Caller x, int e) {
         int length = x.entry(e, 2);
         String before = without(x, e);
         int left = x.shorten(e);
@@ -395,7 +395,7 @@ final class ShortenTest {
     }
 
     /** All that is seen, but for the sequence of one entry. */
-    private static String without(CallExplorer x, int e) {
+    private static String without(Caller x, int e) {
         String[] parts = Probe.look(x).split(" ; ");
         parts[e + 1] = x.entry(e, 0) + " " + x.entry(e, 1) + " " + x.entry(e, 3) + " " + x.entry(e, 4);
         return String.join(" ; ", parts);
@@ -406,7 +406,7 @@ final class ShortenTest {
         Check.due("shorten(0) of an empty book", large(5).shorten(0), -1);
         int[] outcomes = new int[4];
         for (int state = 0; state < 5; state++) {
-            CallExplorer x = large(state);
+            Caller x = large(state);
             steps(x);
             String before = Probe.look(x);
             for (int e : new int[] {Integer.MIN_VALUE, -2, -1, x.entries(), x.entries() + 1, 40, Integer.MAX_VALUE}) {
@@ -435,14 +435,14 @@ final class ShortenTest {
         }
     }
 
-    private static void steps(CallExplorer x) {
+    private static void steps(Caller x) {
         for (int i = 0; i < 60; i++) {
             x.step();
         }
     }
 
-    private static CallExplorer large(int state) {
-        CallExplorer x = new CallExplorer(state);
+    private static Caller large(int state) {
+        Caller x = new Caller(state);
         world(new int[][] {{0, 1, 2}, {1, 1, 0}},
             of(MAKE, ADD, VALUE, LINK, DIVIDE, new int[] {0, 2, 0}, NEXT_VALUE), 100).make(x);
         return x;
@@ -458,7 +458,7 @@ final class ShortenTest {
 
     /** Every finding is shortened as it comes, so that later steps meet shortened entries. */
     private static void byHand(int state, int entry, String before, String after) {
-        CallExplorer x = large(state);
+        Caller x = large(state);
         for (int i = 0; i < 200; i++) {
             int e = x.step();
             if (e == entry) {

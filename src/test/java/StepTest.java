@@ -30,7 +30,7 @@ final class StepTest {
         Check.end();
     }
 
-    private static void makers(CallExplorer x, int... classes) {
+    private static void makers(Caller x, int... classes) {
         for (int c : classes) {
             x.operation(0, c, 0);
         }
@@ -52,7 +52,7 @@ final class StepTest {
         int[][] rows = {{0, -1492899873, 0}, {1, 662824084, 0}, {-1, 646343466, 1}, {2147483647, -1501140182, 0},
             {-2147483648, 654583775, 1}, {12345, -698016724, 0}, {-7, 596901612, 2}};
         for (int[] row : rows) {
-            CallExplorer x = new CallExplorer(row[0]);
+            Caller x = new Caller(row[0]);
             plain(0).make(x);
             Check.due("step from " + row[0], x.step(), 0);
             Check.due("state after a step from " + row[0], x.state(), row[1]);
@@ -85,7 +85,7 @@ final class StepTest {
     /** The BOOK has at most 40 ENTRIES; FULL if it is so, and RANDOM is not drawn at all. */
     private static void fullDrawsNothing() {
         for (int state = -20; state < 20; state++) {
-            CallExplorer x = new CallExplorer(state);
+            Caller x = new Caller(state);
             x.type(0, 0, 0);
             makers(x, 1, 1, 1, 1, 1, 1, 1, 1, 1, 1);
             for (int v = 2; v < 7; v++) {
@@ -466,7 +466,7 @@ final class StepTest {
 
     /** The longest rows that there are, which differ in their last object alone. */
     private static void shapesOfTenObjects() {
-        CallExplorer x = new CallExplorer(187596);
+        Caller x = new Caller(187596);
         x.type(0, 0, 0);
         x.type(1, 0, 0);
         makers(x, 1, 2);
