@@ -31,6 +31,18 @@ final class ReadmeTest {
 
     /** The blocks of README are compiled and run as they stand there; Check counts the wrong answers. */
     private static void callsAnswerAsShown(String readme) throws IOException, ReflectiveOperationException {
+        Path classes = Path.of(System.getProperty("java.class.path").split(File.pathSeparator)[0]);
+        Path source = classes.resolve("ReadmeCalls.java");
+        Files.writeString(source, sourceOf(readme));
+        int failed = ToolProvider.getSystemJavaCompiler().run(null, null, null,
+            "-cp", classes.toString(), "-d", classes.toString(), source.toString());
+        Check.due("README's calls compile", failed, 0);
+        if (failed == 0) {
+            Class.forName("ReadmeCalls").getDeclaredMethod("run").invoke(null);
+        }
+    }
+
+    private static String sourceOf(String readme) {
         StringBuilder functions = new StringBuilder();
         StringBuilder rows = new StringBuilder();
         Matcher block = BLOCK.matcher(readme);
@@ -42,15 +54,7 @@ final class ReadmeTest {
             }
         }
         Check.due("README shows calls", rows.toString().contains("Check.due("), true);
-        Path classes = Path.of(System.getProperty("java.class.path").split(File.pathSeparator)[0]);
-        Path source = classes.resolve("ReadmeCalls.java");
-        Files.writeString(source, "final class ReadmeCalls {\n" + functions + "static void run() {\n" + rows + "}\n}\n");
-        int failed = ToolProvider.getSystemJavaCompiler().run(null, null, null,
-            "-cp", classes.toString(), "-d", classes.toString(), source.toString());
-        Check.due("README's calls compile", failed, 0);
-        if (failed == 0) {
-            Class.forName("ReadmeCalls").getDeclaredMethod("run").invoke(null);
-        }
+        return "final class ReadmeCalls {\n" + functions + "static void run() {\n" + rows + "}\n}\n";
     }
 
     /** A row with its call and the answer behind it, as a check of that answer. */
